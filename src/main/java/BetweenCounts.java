@@ -655,7 +655,7 @@ public final class BetweenCounts {
         }
 
         private void append(long value) {
-            if (value != 0 && size < digit.length) {
+            if (value > 0 && size < digit.length) {
                 digit[size] = value;
                 size++;
             }
@@ -665,12 +665,13 @@ public final class BetweenCounts {
             return place >= 0 && place < size ? digit[place] : 0;
         }
 
-        /** Gives it so many digits, within its room, all 0 as long as trim has not been called. */
-        void openDigits(int digits) {
-            size = Math.max(0, Math.min(digits, digit.length));
-            for (int i = 0; i < size; i++) {
+        /** Puts zeros above the digits, within the room, until there are so many; trim is due after. */
+        void pad(int digits) {
+            int top = Math.min(digits, digit.length);
+            for (int i = size; i < top; i++) {
                 digit[i] = 0;
             }
+            size = Math.max(size, top);
         }
 
         /** Keeps only the digits below a place. */
@@ -710,43 +711,59 @@ public final class BetweenCounts {
 
         /** Adds the other one so many times; the factor is below the base. */
         void addTimes(Big other, long factor) {
-            int top = Math.min(Math.max(size, other.size), digit.length);
+            pad(other.size);
             long carry = 0;
-            for (int i = 0; i < top; i++) {
-                long sum = digitAt(i) + other.digitAt(i) * factor + carry;
+            for (int i = 0; i < other.size && i < size; i++) {
+                long sum = digit[i] + other.digit[i] * factor + carry;
                 digit[i] = sum & DIGIT_MASK;
                 carry = sum >> DIGIT_BITS;
             }
-            size = top;
-            append(carry);
-            trim();
-        }
-
-        /** The other one is not greater. */
-        void subtract(Big other) {
-            long carry = 0;
-            for (int i = 0; i < size; i++) {
-                long left = digit[i] - other.digitAt(i) + carry;
-                digit[i] = left & DIGIT_MASK;
-                carry = left >> DIGIT_BITS;
-            }
+            carryFrom(other.size, carry);
             trim();
         }
 
         /** Neither of the two is this one. */
         void setProduct(Big one, Big other) {
-            openDigits(one.size + other.size);
+            size = 0;
+            addProduct(one, other);
+        }
+
+        /** Neither of the two is this one. */
+        void addProduct(Big one, Big other) {
+            pad(one.size + other.size);
             for (int i = 0; i < one.size; i++) {
+                long factor = one.digit[i];
                 long carry = 0;
                 for (int j = 0; j < other.size && i + j < size; j++) {
-                    long sum = digit[i + j] + one.digit[i] * other.digit[j] + carry;
+                    long sum = digit[i + j] + factor * other.digit[j] + carry;
                     digit[i + j] = sum & DIGIT_MASK;
                     carry = sum >> DIGIT_BITS;
                 }
-                if (i + other.size < size) {
-                    digit[i + other.size] = carry;
-                }
+                carryFrom(i + other.size, carry);
             }
+            trim();
+        }
+
+        /** Adds what is carried, of either sign, at a place and above. */
+        private void carryFrom(int place, long carried) {
+            long carry = carried;
+            for (int i = place; i < size && carry != 0; i++) {
+                long sum = digit[i] + carry;
+                digit[i] = sum & DIGIT_MASK;
+                carry = sum >> DIGIT_BITS;
+            }
+            append(carry);
+        }
+
+        /** The other one is not greater. */
+        void subtract(Big other) {
+            long carry = 0;
+            for (int i = 0; i < other.size && i < size; i++) {
+                long left = digit[i] - other.digit[i] + carry;
+                digit[i] = left & DIGIT_MASK;
+                carry = left >> DIGIT_BITS;
+            }
+            carryFrom(other.size, carry);
             trim();
         }
 
@@ -816,7 +833,7 @@ public final class BetweenCounts {
             scaled.set(by);
             scaled.times(scale);
             number.times(scale);
-            quotient.openDigits(number.size - n + 1);
+            quotient.pad(number.size - n + 1);
             for (int at = quotient.size - 1; at >= 0; at--) {
                 quotient.digit[at] = takeDigit(number, at);
             }
@@ -1031,11 +1048,11 @@ public final class BetweenCounts {
         private void sweepEntry(int i, int j, int k) {
             Big here = entryOf(i, j);
             one.setProduct(pivot, here);
-            other.setProduct(entryOf(i, k), entryOf(k, j));
             if (i == j && i > k) {
+                other.setProduct(entryOf(i, k), entryOf(k, j));
                 one.subtract(other);
             } else {
-                one.addTimes(other, 1);
+                one.addProduct(entryOf(i, k), entryOf(k, j));
             }
             divider.divide(one, whole);
             here.set(divider.quotient);

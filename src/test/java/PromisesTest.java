@@ -39,6 +39,8 @@ public final class PromisesTest {
         DUE.is(what + " below, next limb", asking.limb(1, 1), 0);
         DUE.is(what + " above, last limb", asking.limb(0, HIGH), 0);
         DUE.is(what + " below, last limb", asking.limb(1, HIGH), 0);
+        DUE.is(what + " above, limb 2^27", asking.limb(0, 1 << 27), 0);
+        DUE.is(what + " below, limb 2^27", asking.limb(1, 1 << 27), 0);
         DUE.is(what + " part 2", asking.limb(2, 0), NONE);
         DUE.is(what + " part -1", asking.limb(-1, 0), NONE);
         DUE.is(what + " part least", asking.limb(LOW, 0), NONE);
@@ -275,7 +277,7 @@ public final class PromisesTest {
     private static void arcBetweens() {
         BetweenCounts x = diamond();
         x.arc(0, 1, 1);
-        x.arc(4, 0, 0);
+        x.arc(1, 2, 0);
         fraction("arcBetween: one of two alike", (p, l) -> x.arcBetween(0, p, l), 7, 6);
         fraction("arcBetween: the other one", (p, l) -> x.arcBetween(5, p, l), 7, 6);
         fraction("arcBetween: past 2", (p, l) -> x.arcBetween(1, p, l), 5, 3);
@@ -365,6 +367,15 @@ public final class PromisesTest {
         x.arc(0, 2, 1);
         DUE.is("top: 2 has more", x.top(1), 2);
         DUE.is("top: 1 has less", x.top(2), 1);
+        x.change(1, 0);
+        x.change(5, 0);
+        x.arc(0, 1, 1);
+        x.arc(0, 2, 1);
+        x.arc(0, 1, 1);
+        DUE.is("top: 1 has 3 / 2", x.between(1, 0, 0) * 10 + x.between(1, 1, 0), 32);
+        DUE.is("top: 2 has 1 / 2", x.between(2, 0, 0) * 10 + x.between(2, 1, 0), 12);
+        DUE.is("top: 1 has more again", x.top(1), 1);
+        DUE.is("top: 2 has less again", x.top(2), 2);
         x.choose(0, 1);
         DUE.is("top: both have nothing now, the lesser one", x.top(1), 0);
         DUE.is("top: and the next", x.top(2), 1);
