@@ -77,6 +77,9 @@ final class Oracle {
     private final int[][][] through = new int[10][10][10];
     private final int[][][] by = new int[10][10][30];
     private final int[] path = new int[10];
+    private final Ratio[] between = new Ratio[10];
+    private final Ratio[] arcBetween = new Ratio[30];
+    private final Ratio[][] solved = new Ratio[100][];
     private boolean counting;
 
     Oracle() {
@@ -84,8 +87,15 @@ final class Oracle {
         java.util.Arrays.fill(ends, true);
     }
 
-    int node() {
+    private void forget() {
         walked = false;
+        java.util.Arrays.fill(between, null);
+        java.util.Arrays.fill(arcBetween, null);
+        java.util.Arrays.fill(solved, null);
+    }
+
+    int node() {
+        forget();
         return nodes < 10 ? nodes++ : NONE;
     }
 
@@ -101,7 +111,7 @@ final class Oracle {
         if (!isNode(from) || !isNode(to) || from == to || weight < 0 || weight > 1000 || arcs.size() == 30) {
             return NONE;
         }
-        walked = false;
+        forget();
         arcs.add(new int[] {from, to, weight});
         return arcs.size() - 1;
     }
@@ -110,7 +120,7 @@ final class Oracle {
         if (!isArc(arc) || weight < 0 || weight > 1000) {
             return NONE;
         }
-        walked = false;
+        forget();
         int had = arcs.get(arc)[2];
         arcs.get(arc)[2] = weight;
         return had;
@@ -120,7 +130,7 @@ final class Oracle {
         if (!isNode(node) || what < 0 || what > 2) {
             return false;
         }
-        walked = false;
+        forget();
         boolean[] row = new boolean[][] {inGroup, begins, ends}[what];
         return row[node] = !row[node];
     }
@@ -216,6 +226,14 @@ final class Oracle {
         if (!isNode(node)) {
             return null;
         }
+        walkAll();
+        if (between[node] == null) {
+            between[node] = addBetween(node);
+        }
+        return between[node];
+    }
+
+    private Ratio addBetween(int node) {
         Ratio sum = Ratio.ZERO;
         for (int[] p : pairs()) {
             if (p[0] != node && p[1] != node) {
@@ -229,6 +247,14 @@ final class Oracle {
         if (!isArc(arc)) {
             return null;
         }
+        walkAll();
+        if (arcBetween[arc] == null) {
+            arcBetween[arc] = addArcBetween(arc);
+        }
+        return arcBetween[arc];
+    }
+
+    private Ratio addArcBetween(int arc) {
         Ratio sum = Ratio.ZERO;
         for (int[] p : pairs()) {
             sum = sum.plus(Ratio.of(by[p[0]][p[1]][arc], ways[p[0]][p[1]]));
@@ -302,8 +328,15 @@ final class Oracle {
         return set;
     }
 
-    /** The potentials of the piece's nodes, that of t being 0: Gauss' way over the node equations. */
     private Ratio[] potentials(int s, int t) {
+        if (solved[s * 10 + t] == null) {
+            solved[s * 10 + t] = solve(s, t);
+        }
+        return solved[s * 10 + t];
+    }
+
+    /** The potentials of the piece's nodes, that of t being 0: Gauss' way over the node equations. */
+    private Ratio[] solve(int s, int t) {
         int piece = pieceOf(s);
         Ratio[][] row = new Ratio[nodes][nodes + 1];
         for (int i = 0; i < nodes; i++) {

@@ -1,9 +1,27 @@
+import java.util.ArrayList;
+import java.util.List;
+import java.util.function.Consumer;
+
 /**
  * Runs of up to 512 calls, wrong arguments among them, every answer against the Oracle; then
  * networks at the document's limits.
  */
 public final class OracleTest {
     private static final Due DUE = new Due("OracleTest");
+    private static final int LAST_CALL = 512;
+
+    /** Networks, found by search, whose fractions of betweenness are as long as could be found. */
+    private static final int[][] LONGEST = {
+        {9, 3, 4, 1, 2, 1, 2, 4, 2, 3, 4, 1, 5, 6, 1, 9, 0, 1, 5, 8, 3, 7, 8, 1, 4, 5, 1, 1, 6, 5,
+            5, 6, 1, 2, 3, 1, 7, 0, 3, 4, 5, 1, 1, 3, 2, 6, 7, 1, 9, 0, 1, 6, 7, 1, 0, 1, 1, 3, 7, 4,
+            2, 3, 1, 3, 4, 1, 4, 5, 1, 5, 6, 1, 2, 3, 1, 8, 2, 4, 8, 9, 1, 2, 5, 3, 0, 2, 2, 7, 9, 2},
+        {0, 1, 1, 1, 2, 1, 3, 5, 2, 3, 4, 1, 2, 3, 1, 5, 6, 1, 6, 7, 1, 8, 2, 4, 2, 3, 1, 7, 9, 2,
+            4, 5, 1, 1, 2, 1, 6, 7, 1, 4, 5, 1, 5, 6, 1, 5, 1, 6, 4, 7, 3, 8, 9, 1, 6, 0, 4, 2, 3, 1,
+            0, 1, 1, 3, 4, 1, 9, 6, 7, 5, 6, 1, 7, 8, 1, 0, 3, 3, 1, 5, 4, 9, 0, 1, 6, 7, 1, 2, 8, 6},
+        {0, 1, 1, 1, 2, 1, 2, 9, 7, 3, 4, 1, 4, 5, 1, 5, 6, 1, 6, 7, 1, 0, 5, 5, 9, 4, 5, 8, 0, 2,
+            4, 7, 3, 6, 0, 4, 7, 3, 6, 4, 5, 1, 5, 6, 1, 6, 7, 1, 7, 8, 1, 8, 9, 1, 6, 8, 2, 2, 3, 1,
+            1, 4, 3, 3, 4, 1, 9, 6, 7, 5, 6, 1, 6, 7, 1, 3, 5, 2, 7, 8, 1, 5, 2, 7, 9, 1, 2, 2, 3, 1}
+    };
     private static long seed = 20261116L;
 
     /** The same numbers in every run. */
@@ -18,8 +36,10 @@ public final class OracleTest {
 
     private BetweenCounts x = new BetweenCounts();
     private Oracle o = new Oracle();
-    private String name;
+    private final List<Consumer<BetweenCounts>> changes = new ArrayList<>();
+    private final String name;
     private int calls = 0;
+    private int callsOfObject = 0;
 
     private OracleTest(String name) {
         this.name = name;
@@ -28,21 +48,38 @@ public final class OracleTest {
     private void due(String call, long got, long want) {
         calls++;
         DUE.is(name + ", call " + calls + ", " + call, got, want);
+        callsOfObject++;
+        if (callsOfObject == LAST_CALL) {
+            renew();
+        }
+    }
+
+    /** Nothing is promised after an object's 512th call: another one goes on, after the same changes. */
+    private void renew() {
+        x = new BetweenCounts();
+        for (Consumer<BetweenCounts> change : changes) {
+            change.accept(x);
+        }
+        callsOfObject = changes.size();
     }
 
     private void node() {
+        changes.add(y -> y.node());
         due("node()", x.node(), o.node());
     }
 
     private void arc(int from, int to, int weight) {
+        changes.add(y -> y.arc(from, to, weight));
         due("arc(" + from + ", " + to + ", " + weight + ")", x.arc(from, to, weight), o.arc(from, to, weight));
     }
 
     private void change(int arc, int weight) {
+        changes.add(y -> y.change(arc, weight));
         due("change(" + arc + ", " + weight + ")", x.change(arc, weight), o.change(arc, weight));
     }
 
     private void choose(int node, int what) {
+        changes.add(y -> y.choose(node, what));
         due("choose(" + node + ", " + what + ")", x.choose(node, what) ? 1 : 0, o.choose(node, what) ? 1 : 0);
     }
 
@@ -258,6 +295,22 @@ public final class OracleTest {
         run.askAll(6, false);
     }
 
+    private static void longestBetween(int number) {
+        OracleTest run = new OracleTest("longest between " + number);
+        run.nodes(10);
+        int[] arcs = LONGEST[number];
+        for (int a = 0; a < arcs.length; a += 3) {
+            run.arc(arcs[a], arcs[a + 1], arcs[a + 2]);
+        }
+        run.choose(4, 0);
+        int limbs = 0;
+        for (int v = 0; v < 30; v++) {
+            limbs = Math.max(limbs, run.o.arcBetween(v).below.bitLength() / 32 + 1);
+        }
+        DUE.holds("longest between: five limbs or more", limbs >= 5);
+        run.askAll(limbs + 1, false);
+    }
+
     /** As much as nodes can conduct, in even and in uneven shares. */
     private static void strongCurrent(int number) {
         OracleTest run = new OracleTest("strong current " + number);
@@ -291,6 +344,9 @@ public final class OracleTest {
         longHarmonic();
         for (int i = 0; i < 12; i++) {
             longBetween(i);
+        }
+        for (int i = 0; i < LONGEST.length; i++) {
+            longestBetween(i);
         }
         for (int i = 0; i < 6; i++) {
             strongCurrent(i);
