@@ -15,6 +15,11 @@ final class Due {
         long limb(int part, int limb);
     }
 
+    /** The asking of a fraction of any node. */
+    interface AskingOfNode {
+        long limb(BetweenCounts x, int node, int part, int limb);
+    }
+
     private final String test;
     private String inside = "";
     private int right = 0;
@@ -95,6 +100,20 @@ final class Due {
         is(what + ", last limb", asking.limb(1, HIGH), NONE);
         is(what + ", another part", asking.limb(2, 0), NONE);
         is(what + ", a limb below 0", asking.limb(0, -1), NONE);
+    }
+
+    /** "NONE: no such node". */
+    void hasNoOtherNode(AskingOfNode asking) {
+        BetweenCounts five = Given.diamond();
+        int[] others = {-1, 5, 9, 10, LOW, HIGH};
+        for (int node : others) {
+            isNone("node " + node + " of five", (part, limb) -> asking.limb(five, node, part, limb));
+        }
+        BetweenCounts ten = Given.nodes(10);
+        isNone("the eleventh of ten", (part, limb) -> asking.limb(ten, 10, part, limb));
+        is("the tenth of ten", asking.limb(ten, 9, 1, 0), 1);
+        BetweenCounts none = new BetweenCounts();
+        isNone("without nodes", (part, limb) -> asking.limb(none, 0, part, limb));
     }
 
     /** Whether two objects answer alike to all that can be asked of them. */

@@ -4,8 +4,6 @@
  */
 public final class Promise09BetweenTest {
     private static final Due DUE = new Due("Promise 9, between");
-    private static final int LOW = Due.LOW;
-    private static final int HIGH = Due.HIGH;
 
     private static void due(BetweenCounts x, int node, long above, long below) {
         DUE.fraction("between(" + node + ")", (p, l) -> x.between(node, p, l), above, below);
@@ -77,15 +75,7 @@ public final class Promise09BetweenTest {
 
     /** "NONE: no such node". */
     static void noSuchNode() {
-        BetweenCounts x = Given.diamond();
-        int[] wrong = {-1, 5, 9, 10, LOW, HIGH};
-        for (int v : wrong) {
-            DUE.isNone("between(" + v + ")", (p, l) -> x.between(v, p, l));
-        }
-        BetweenCounts ten = Given.nodes(10);
-        DUE.isNone("the eleventh of ten", (p, l) -> ten.between(10, p, l));
-        BetweenCounts none = new BetweenCounts();
-        DUE.isNone("without nodes", (p, l) -> none.between(0, p, l));
+        DUE.hasNoOtherNode(BetweenCounts::between);
     }
 
     /** "NONE: .. another part". */

@@ -4,8 +4,6 @@
  */
 public final class Promise12HarmonicTest {
     private static final Due DUE = new Due("Promise 12, harmonic");
-    private static final int LOW = Due.LOW;
-    private static final int HIGH = Due.HIGH;
 
     /** 0 leads to 1 (far 2), 2 (far 3) and 3 (far 4); 4 is apart. */
     private static BetweenCounts tree() {
@@ -88,15 +86,7 @@ public final class Promise12HarmonicTest {
 
     /** "NONE: no such node". */
     static void noSuchNode() {
-        BetweenCounts x = tree();
-        int[] wrong = {-1, 5, 9, 10, LOW, HIGH};
-        for (int v : wrong) {
-            DUE.isNone("harmonic(" + v + ")", (p, l) -> x.harmonic(v, p, l));
-        }
-        BetweenCounts ten = Given.nodes(10);
-        DUE.isNone("the eleventh of ten", (p, l) -> ten.harmonic(10, p, l));
-        BetweenCounts none = new BetweenCounts();
-        DUE.isNone("without nodes", (p, l) -> none.harmonic(0, p, l));
+        DUE.hasNoOtherNode(BetweenCounts::harmonic);
     }
 
     /** "NONE: .. another part". */

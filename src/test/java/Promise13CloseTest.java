@@ -4,8 +4,6 @@
  */
 public final class Promise13CloseTest {
     private static final Due DUE = new Due("Promise 13, close");
-    private static final int LOW = Due.LOW;
-    private static final int HIGH = Due.HIGH;
 
     /** 0 leads to 1 (far 2), 2 (far 3) and 3 (far 5); 4 is apart. */
     private static BetweenCounts tree() {
@@ -93,15 +91,7 @@ public final class Promise13CloseTest {
 
     /** "NONE: no such node". */
     static void noSuchNode() {
-        BetweenCounts x = tree();
-        int[] wrong = {-1, 5, 9, 10, LOW, HIGH};
-        for (int v : wrong) {
-            DUE.isNone("close(" + v + ")", (p, l) -> x.close(v, p, l));
-        }
-        BetweenCounts ten = Given.nodes(10);
-        DUE.isNone("the eleventh of ten", (p, l) -> ten.close(10, p, l));
-        BetweenCounts none = new BetweenCounts();
-        DUE.isNone("without nodes", (p, l) -> none.close(0, p, l));
+        DUE.hasNoOtherNode(BetweenCounts::close);
     }
 
     /** "NONE: .. another part": also where the fraction is 0 / 1. */

@@ -76,6 +76,17 @@ public final class Promise15ResistanceTest {
         }
     }
 
+    /** All s and t of one object, those with the same sum one after the other: each has its own answer. */
+    static void allInTurn() {
+        BetweenCounts x = Given.longChain(1);
+        for (int sum = 0; sum < 19; sum++) {
+            for (int s = Math.max(0, sum - 9); s <= Math.min(9, sum); s++) {
+                int t = sum - s;
+                DUE.is("resistance(" + s + ", " + t + ")", x.resistance(s, t, 0, 0), Math.abs(s - t));
+            }
+        }
+    }
+
     /** Current is of nodes and arcs: that nodes are BEGIN, END or of the GROUP is all the same. */
     static void choicesAreAllTheSame() {
         BetweenCounts x = triangle();

@@ -5,8 +5,6 @@
  */
 public final class Promise16CarriedTest {
     private static final Due DUE = new Due("Promise 16, carried");
-    private static final int LOW = Due.LOW;
-    private static final int HIGH = Due.HIGH;
 
     private static void due(BetweenCounts x, int node, long above, long below) {
         DUE.fraction("carried(" + node + ")", (p, l) -> x.carried(node, p, l), above, below);
@@ -96,15 +94,7 @@ public final class Promise16CarriedTest {
 
     /** "NONE: no such node". */
     static void noSuchNode() {
-        BetweenCounts x = Given.ring(3);
-        int[] wrong = {-1, 3, 9, 10, LOW, HIGH};
-        for (int v : wrong) {
-            DUE.isNone("carried(" + v + ")", (p, l) -> x.carried(v, p, l));
-        }
-        BetweenCounts ten = Given.nodes(10);
-        DUE.isNone("the eleventh of ten", (p, l) -> ten.carried(10, p, l));
-        BetweenCounts none = new BetweenCounts();
-        DUE.isNone("without nodes", (p, l) -> none.carried(0, p, l));
+        DUE.hasNoOtherNode(BetweenCounts::carried);
     }
 
     /** "NONE: .. another part": also where the fraction is 0 / 1. */
